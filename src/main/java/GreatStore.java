@@ -66,11 +66,11 @@ public final class GreatStore {
         wagon = new Van();
         tape = new Tape();
         tokens = new Tokens();
-        reader = new RuleReader(tokens);
-        takings = new Takings();
-        cuts = new Cuts();
         theRule = new Rule();
         spareRule = new Rule();
+        reader = new RuleReader(tokens, spareRule);
+        takings = new Takings();
+        cuts = new Cuts();
         today = 0;
     }
 
@@ -576,7 +576,8 @@ public final class GreatStore {
 
     /**
      * A text cut into tokens, with END behind the last one. A sign's kind is its own character, so
-     * the kinds of the other tokens lie above all characters.
+     * the kinds of the other tokens lie above all characters; a character that is no sign needs no
+     * kind either, since the reader has no place where it can stand.
      */
     private static final class Tokens {
         static final int END = 256;
@@ -590,7 +591,6 @@ public final class GreatStore {
         static final int BACK = 264;
         static final int MONTH = 265;
         static final int MOST_DIGITS = 6;
-        static final String SIGNS = ";+-*/()<=>";
 
         final int[] kinds;
         final int[] places;
@@ -633,7 +633,7 @@ public final class GreatStore {
                 int kind = behind - at <= MOST_DIGITS ? NUMBER : WRONG;
                 add(kind, at, kind == NUMBER ? numberOf(text, at, behind) : 0);
             } else {
-                add(signKind(text[at]), at, 0);
+                add(text[at] & 255, at, 0);
             }
             return behind;
         }
@@ -653,15 +653,6 @@ public final class GreatStore {
 
         private static boolean isDigit(int c) {
             return c >= '0' && c <= '9';
-        }
-
-        private static int signKind(int c) {
-            for (int s = 0; s < SIGNS.length(); s++) {
-                if (SIGNS.charAt(s) == c) {
-                    return c;
-                }
-            }
-            return WRONG;
         }
 
         private static int numberOf(byte[] text, int from, int to) {
@@ -719,19 +710,18 @@ public final class GreatStore {
         int fault;
         int place;
 
-        RuleReader(Tokens tokens) {
+        RuleReader(Tokens tokens, Rule target) {
             this.tokens = tokens;
-            this.target = null;
+            this.target = target;
             this.at = 0;
             this.fault = 0;
             this.place = NONE;
         }
 
-        boolean read(Rule empty) {
-            if (empty == null) {
-                return false;
+        boolean read(Rule spare) {
+            if (spare != null) {
+                target = spare;
             }
-            target = empty;
             target.clear();
             at = 0;
             fault = 0;
@@ -860,7 +850,14 @@ public final class GreatStore {
                 return fail(TOO_MANY);
             }
             at++;
-            return readSum(open + 1) && pass(')');
+            if (!readSum(open + 1)) {
+                return false;
+            }
+            if (kind() != ')') {
+                return fail(MISPLACED);
+            }
+            at++;
+            return true;
         }
 
         private boolean pass(int due) {

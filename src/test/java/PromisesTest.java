@@ -480,7 +480,19 @@ public final class PromisesTest {
         faulty(" payx 1 when 1=1;", 1, 1);
         faulty("payX 1 when 1=1;", 1, 0);
         faulty("PAY 1 when 1=1;", 1, 0);
+        for (char letter : new char[] {'a', 'm', 'z', 'A', 'M', 'Z'}) {
+            faulty(" pay" + letter + " 1 when 1=1;", 1, 1);
+        }
+        for (char other : new char[] {'@', '[', '`', '{', '_', '\'', '\u007f', '\u0080', '\u00e1'}) {
+            faulty(" pay" + other + " 1 when 1=1;", 1, 4);
+        }
+        for (char other : new char[] {',', '.', ':', '?', '!'}) {
+            faulty("pay 1" + other + "2 when 1=1;", 1, 5);
+        }
         faulty("pay_1 when 1=1;", 1, 3);
+        faulty(";".repeat(400), 1, 0);
+        faulty(" ".repeat(399) + ";", 1, 399);
+        faulty(" ".repeat(397) + "pay", 1, 400);
         faulty("pay", 1, 3);
         faulty("pay   ", 1, 6);
         faulty("pay 1234567 when 1=1;", 1, 4);
