@@ -38,7 +38,7 @@ final class Check {
         x.end(bytes.length);
     }
 
-    private static int word(byte[] bytes, int from) {
+    static int word(byte[] bytes, int from) {
         int word = 0;
         for (int i = from; i < from + 4; i++) {
             word = word << 8 | (i < bytes.length ? bytes[i] & 255 : ' ');
