@@ -34,22 +34,39 @@ public final class FaceTest {
     }
 
     private static void methods() {
-        Set<String> due = new TreeSet<>();
-        Set<String> names = new TreeSet<>();
-        for (String method : FACE) {
-            due.add(method);
-            names.add(method.substring(method.indexOf(' ') + 1, method.indexOf('(')));
-        }
+        Set<String> due = Set.of(FACE);
         Set<String> found = new TreeSet<>();
         for (Method method : GreatStore.class.getDeclaredMethods()) {
             if (!Modifier.isPrivate(method.getModifiers())) {
                 found.add(told(method));
-            } else {
-                Check.due("private " + method.getName() + " has a public name", names.contains(method.getName()), false);
             }
-            Check.due(method.getName() + ": at most seven", method.getParameterCount() <= 7, true);
         }
         Check.due("methods " + found + " for " + due, found.equals(due), true);
+        ownRules(GreatStore.class);
+        for (Class<?> one : GreatStore.class.getDeclaredClasses()) {
+            ownRules(one);
+        }
+    }
+
+    /** LANGUAGE.md, 1 and 11, of one class: the names of private methods, the parameters and the fields. */
+    private static void ownRules(Class<?> one) {
+        Set<String> names = new TreeSet<>();
+        for (String method : FACE) {
+            names.add(method.substring(method.indexOf(' ') + 1, method.indexOf('(')));
+        }
+        for (Method method : one.getDeclaredMethods()) {
+            String told = one.getName() + "." + method.getName();
+            boolean hidden = Modifier.isPrivate(method.getModifiers());
+            Check.due(told + " is private with a public name", hidden && names.contains(method.getName()), false);
+            Check.due(told + ": at most seven", method.getParameterCount() <= 7, true);
+        }
+        int fields = 0;
+        for (Field field : one.getDeclaredFields()) {
+            fields += Modifier.isStatic(field.getModifiers()) ? 0 : 1;
+            Check.due(one.getName() + "." + field.getName() + " is static, but not final",
+                (field.getModifiers() & (Modifier.STATIC | Modifier.FINAL)) == Modifier.STATIC, false);
+        }
+        Check.due(one.getName() + ": some twenty fields", fields <= 20, true);
     }
 
     private static String told(Method method) {
